@@ -139,7 +139,7 @@ public final class DuneBench {
         if (!tryOut(weather, first, second, third)) {
             return NUMBER;
         }
-        return trial.top();
+        return trial.greatestHeight();
     }
 
     public int floods(int weather, int first, int second, int third) {
@@ -240,9 +240,9 @@ public final class DuneBench {
             case 3:
                 return shore.flooded;
             case 4:
-                return shore.sand();
+                return shore.heightsTogether();
             case 5:
-                return shore.top();
+                return shore.greatestHeight();
             case 6:
                 return survey.readings();
             default:
@@ -345,7 +345,7 @@ public final class DuneBench {
     }
 
     private void beginYear(int year) {
-        if (year < PLANNED_YEARS && planCells[year] != NO_CELL) {
+        if (year < PLANNED_YEARS && trial.has(planCells[year])) {
             trial.fence[planCells[year]] = fenceSize;
         }
     }
@@ -353,10 +353,10 @@ public final class DuneBench {
     /** Leaves the plan for an aim in planCells; false if there is none. */
     private boolean findPlan(int aim) {
         int lastYear = weathers.lastYear();
-        for (int fences = 0; fences <= PLANNED_YEARS; fences++) {
+        for (int wanted = 0; wanted <= PLANNED_YEARS; wanted++) {
             // Codes rise in the order in which the document prefers plans of as many fences.
             for (int code = 0; code < PLAN_CODES; code++) {
-                if (choosePlan(code, lastYear) && plannedFences() == fences && worstCrest(aim) >= aim) {
+                if (choosePlan(code, lastYear) && plannedFences() == wanted && worstCrest(aim) >= aim) {
                     return true;
                 }
             }
@@ -398,7 +398,7 @@ public final class DuneBench {
         for (int weather = 0; weather < WEATHERS; weather++) {
             if (weathers.count[weather] > 0) {
                 play(weather);
-                worst = Math.min(worst, trial.top());
+                worst = Math.min(worst, trial.greatestHeight());
                 if (trial.flooded > 0 || worst < floor) {
                     return -1;
                 }
@@ -431,14 +431,11 @@ public final class DuneBench {
         int flooded;
 
         Coast() {
-            cells = FIRST_CELLS;
             height = new int[MOST_CELLS];
             grass = new int[MOST_CELLS];
             fence = new int[MOST_CELLS];
             kept = new int[MOST_CELLS];
-            sea = 0;
-            behind = 0;
-            flooded = 0;
+            renew(FIRST_CELLS);
         }
 
         void renew(int n) {
@@ -484,6 +481,7 @@ public final class DuneBench {
             }
         }
 
+        /** Answers how much comes to lie behind. */
         int blow(int strength) {
             int past = 0;
             for (int cell = cells - 1; cell >= 0; cell--) {
@@ -495,7 +493,7 @@ public final class DuneBench {
             return past;
         }
 
-        /** Carries sand over the cells behind one: how much comes past the last. */
+        /** Answers how much comes past the last cell. */
         private int carryBehind(int from, int sand) {
             int left = sand;
             for (int cell = from + 1; cell < cells; cell++) {
@@ -504,7 +502,7 @@ public final class DuneBench {
             return left;
         }
 
-        /** How much of the sand that comes a cell keeps. */
+        /** Answers how much of the sand that comes a cell keeps. */
         private int hold(int cell, int sand) {
             int unfenced = 1 + 2 * grass[cell];
             int held = Math.min(sand, Math.min(unfenced + fence[cell], MOST_HEIGHT - height[cell]));
@@ -514,7 +512,7 @@ public final class DuneBench {
             return held;
         }
 
-        /** How many cells are drowned. */
+        /** Answers how many cells are drowned. */
         int surge(int level) {
             for (int cell = 0; cell < cells; cell++) {
                 if (height[cell] >= level) {
@@ -534,7 +532,7 @@ public final class DuneBench {
             sea += sand;
         }
 
-        /** How many cells have other grass by it. */
+        /** Answers how many cells have other grass by it. */
         int endYear() {
             int others = 0;
             for (int cell = 0; cell < cells; cell++) {
@@ -555,14 +553,14 @@ public final class DuneBench {
             return isWithin(sandKept, 1, 9) ? Math.min(MOST_GRASS, now + 1) : now;
         }
 
+        /** Answers how much comes. */
         int addSand(int sand) {
             int comes = Math.min(sand, MOST_HEIGHT - height[0]);
             height[0] += comes;
             return comes;
         }
 
-        /** All heights together. */
-        int sand() {
+        int heightsTogether() {
             int sum = 0;
             for (int cell = 0; cell < cells; cell++) {
                 sum += height[cell];
@@ -570,7 +568,7 @@ public final class DuneBench {
             return sum;
         }
 
-        int top() {
+        int greatestHeight() {
             int greatest = 0;
             for (int cell = 0; cell < cells; cell++) {
                 greatest = Math.max(greatest, height[cell]);
@@ -591,7 +589,7 @@ public final class DuneBench {
             value = new int[WEATHERS][MOST_EVENTS];
         }
 
-        /** The weather isn't full: how many events it has then. */
+        /** For a weather that isn't full; answers how many events it has then. */
         int add(int weather, int eventKind, int v) {
             int place = count[weather];
             kind[weather][place] = eventKind;
@@ -635,9 +633,7 @@ public final class DuneBench {
 
         Survey() {
             reading = new int[MOST_CELLS];
-            for (int cell = 0; cell < MOST_CELLS; cell++) {
-                reading[cell] = NO_READING;
-            }
+            forget();
         }
 
         void forget() {
@@ -646,7 +642,7 @@ public final class DuneBench {
             }
         }
 
-        /** What the reading was. */
+        /** Answers what the reading was. */
         int put(int cell, int v) {
             int old = reading[cell];
             reading[cell] = v;

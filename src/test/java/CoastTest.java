@@ -43,11 +43,14 @@ public final class CoastTest {
         for (int n = 3; n <= 7; n++) {
             DuneBench x = new DuneBench();
             x.set(0, 0, 50);
-            x.set(1, 1, 2);
-            x.set(4, 2, 7);
             x.wind(9);
             x.storm(99);
-            x.read(4, 12);
+            for (int cell = 0; cell < 5; cell++) {
+                x.set(cell, 1, 2);
+                x.set(cell, 2, 7);
+                x.read(cell, 12);
+            }
+            CHECK.due("coast: many(2) before", x.many(2), 5);
             CHECK.due("coast: coast(n)", x.coast(n), n);
             CHECK.due("coast: many(0)", x.many(0), n);
             for (int what = 1; what <= 6; what++) {

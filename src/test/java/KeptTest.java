@@ -46,6 +46,8 @@ public final class KeptTest {
         CHECK.due("many(5): the last cell", x.many(5), 99);
         x.set(0, 0, 99);
         CHECK.due("many(4): first and last", x.many(4), 198);
+        x.set(6, 0, 0);
+        CHECK.due("many(5): the first cell", x.many(5), 99);
     }
 
     private static void sandIsNeverLost() {

@@ -19,6 +19,7 @@ public final class PlanTest {
         planOfOneYear();
         planOfTwoYears();
         planForALaterYearAlone();
+        planForALaterYearOfAnotherWeather();
         planForEachWeather();
         planAgainstFloods();
         planWithoutEvents();
@@ -240,6 +241,25 @@ public final class PlanTest {
         x.event(0, WIND, 9);
         planIs(x, 9, 1, -3, -3, 1);
         CHECK.due("later: most()", x.most(), 9);
+    }
+
+    /** Year 0 ends at once, and only the second weather comes to years 1 and 2. */
+    private static void planForALaterYearOfAnotherWeather() {
+        DuneBench x = new DuneBench();
+        x.coast(3);
+        x.set(0, 0, 36);
+        x.event(0, STORM, 1);
+        x.event(1, YEAR_END, 0);
+        for (int i = 0; i < 3; i++) {
+            x.event(1, WIND, 9);
+        }
+        x.event(1, YEAR_END, 0);
+        x.event(1, WIND, 9);
+        planIs(x, 2, 0, -3, -3, -3);
+        planIs(x, 3, 1, -3, -3, 1);
+        planIs(x, 9, 1, -3, -3, 1);
+        planIs(x, 10, -3, -3, -3, -3);
+        CHECK.due("another weather: most()", x.most(), 9);
     }
 
     private static void planForEachWeather() {

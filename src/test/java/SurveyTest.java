@@ -178,6 +178,11 @@ public final class SurveyTest {
         doubtIs(x, 40, 1);
         x.read(1, 0);
         doubtIs(x, 0, 1);
+        x.read(0, 13);
+        doubtIs(x, 13, 1);
+        x.read(0, 0);
+        x.read(2, 17);
+        doubtIs(x, 17, 1);
         x.read(0, 50);
         x.read(1, 50);
         x.read(2, 50);
