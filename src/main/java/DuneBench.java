@@ -484,22 +484,16 @@ public final class DuneBench {
         /** Answers how much comes to lie behind. */
         int blow(int strength) {
             int past = 0;
-            for (int cell = cells - 1; cell >= 0; cell--) {
-                int lost = Math.min(height[cell], Math.max(0, strength - grass[cell]));
-                height[cell] -= lost;
-                past += carryBehind(cell, lost);
+            for (int from = cells - 1; from >= 0; from--) {
+                int left = Math.min(height[from], Math.max(0, strength - grass[from]));
+                height[from] -= left;
+                for (int cell = from + 1; cell < cells; cell++) {
+                    left -= hold(cell, left);
+                }
+                past += left;
             }
             behind += past;
             return past;
-        }
-
-        /** Answers how much comes past the last cell. */
-        private int carryBehind(int from, int sand) {
-            int left = sand;
-            for (int cell = from + 1; cell < cells; cell++) {
-                left -= hold(cell, left);
-            }
-            return left;
         }
 
         /** Answers how much of the sand that comes a cell keeps. */
