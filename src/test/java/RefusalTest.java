@@ -17,7 +17,7 @@ public final class RefusalTest {
     }
 
     private static void coastCalls(int n) {
-        DuneBench x = busy(n);
+        DuneBench x = Benches.busy(n);
         String before = Check.stateOf(x);
         for (int far : FAR) {
             number("coast", x.coast(far));
@@ -37,7 +37,7 @@ public final class RefusalTest {
     }
 
     private static void weatherCalls(int n) {
-        DuneBench x = busy(n);
+        DuneBench x = Benches.busy(n);
         String before = Check.stateOf(x);
         for (int far : FAR) {
             number("event weather", x.event(far, 0, 1));
@@ -59,7 +59,7 @@ public final class RefusalTest {
     }
 
     private static void surveyCalls(int n) {
-        DuneBench x = busy(n);
+        DuneBench x = Benches.busy(n);
         String before = Check.stateOf(x);
         for (int far : FAR) {
             CHECK.due("read cell", x.read(far, 1), -9);
@@ -78,7 +78,7 @@ public final class RefusalTest {
     }
 
     private static void backWithNothingKept() {
-        DuneBench x = busy(5);
+        DuneBench x = Benches.busy(5);
         String before = Check.stateOf(x);
         CHECK.due("back", x.back(), DuneBench.NONE);
         unchanged("back with nothing kept", x, before);
@@ -87,7 +87,7 @@ public final class RefusalTest {
     /** Numbers one beside those that may be. */
     private static void nearNumbers() {
         for (int n = 3; n <= 7; n++) {
-            DuneBench x = busy(n);
+            DuneBench x = Benches.busy(n);
             String before = Check.stateOf(x);
             number("coast(2)", x.coast(2));
             number("coast(8)", x.coast(8));
@@ -118,29 +118,5 @@ public final class RefusalTest {
     private static void unchanged(String calls, DuneBench x, String before) {
         CHECK.holds(calls + " change nothing", before.equals(Check.stateOf(x)));
         CHECK.due(calls + ": size", x.size(12), 12);
-    }
-
-    /** An object with something of everything; weather 2 is full. */
-    private static DuneBench busy(int n) {
-        DuneBench x = new DuneBench();
-        x.coast(n);
-        x.storm(9);
-        for (int cell = 0; cell < n; cell++) {
-            x.set(cell, 0, 30 + 5 * cell);
-            x.set(cell, 1, cell % 4);
-            x.set(cell, 2, 2 * cell);
-        }
-        x.wind(9);
-        x.storm(28);
-        x.read(0, 4);
-        x.read(n - 1, 77);
-        x.size(12);
-        x.event(0, 0, 9);
-        x.event(0, 2, 0);
-        x.event(0, 1, 40);
-        for (int i = 0; i < 12; i++) {
-            x.event(2, i % 3 == 0 ? 2 : 0, 5);
-        }
-        return x;
     }
 }
