@@ -487,7 +487,7 @@ public final class DuneBench {
             for (int from = cells - 1; from >= 0; from--) {
                 int left = Math.min(height[from], Math.max(0, strength - grass[from]));
                 height[from] -= left;
-                for (int cell = from + 1; cell < cells; cell++) {
+                for (int cell = from + 1; cell < cells && left > 0; cell++) {
                     left -= hold(cell, left);
                 }
                 past += left;

@@ -30,7 +30,10 @@ public final class LanguageTest {
         constants();
         members();
         nestedClasses();
-        source(Path.of(args.length > 0 ? args[0] : "."));
+        Path root = Path.of(args.length > 0 ? args[0] : ".");
+        String text = Files.readString(root.resolve("src/main/java/DuneBench.java"));
+        signs(text);
+        methods(new Source(text));
         CHECK.end();
     }
 
@@ -72,21 +75,43 @@ public final class LanguageTest {
     }
 
     private static void nestedClasses() {
+        CHECK.holds("at most twelve classes", DuneBench.class.getDeclaredClasses().length < 12);
+        fieldsOf(DuneBench.class);
         for (Class<?> nested : DuneBench.class.getDeclaredClasses()) {
             CHECK.holds(nested.getName() + " is static and not public",
                 Modifier.isStatic(nested.getModifiers()) && !Modifier.isPublic(nested.getModifiers()));
             for (Method method : nested.getDeclaredMethods()) {
                 CHECK.holds("parameters of " + method.getName(), method.getParameterCount() <= 7);
             }
+            fieldsOf(nested);
         }
     }
 
-    private static void source(Path root) throws IOException {
-        String text = Files.readString(root.resolve("src/main/java/DuneBench.java"));
+    private static void fieldsOf(Class<?> owner) {
+        long own = Arrays.stream(owner.getDeclaredFields()).filter(f -> !Modifier.isStatic(f.getModifiers())).count();
+        CHECK.holds(owner.getName() + " has at most twenty fields", own <= 20);
+    }
+
+    private static void signs(String text) {
         String code = text.replaceAll("(?s)/\\*.*?\\*/", "").replaceAll("//[^\n]*", "");
         for (String word : FORBIDDEN) {
             CHECK.holds("the source has no " + word, !Pattern.compile(word).matcher(code).find());
         }
         CHECK.holds("the source has signs 1 to 127 alone", text.chars().allMatch(c -> c > 0 && c < 128));
+    }
+
+    private static void methods(Source source) {
+        CHECK.holds("no two methods have a name, " + source.namedTwice, source.namedTwice.isEmpty());
+        for (String method : source.bodies.keySet()) {
+            String body = source.bodies.get(method);
+            CHECK.holds(method + " is short", body.split("\n").length <= 60);
+            CHECK.holds(method + " is no more than eight deep", source.depthOf(method, 0) <= 8);
+            // All calls of a run live in one room, so they use the rows that the constructors made.
+            CHECK.holds(method + " makes nothing, or is a constructor",
+                method.startsWith("new ") || !body.contains("new "));
+        }
+        for (String call : FACE) {
+            CHECK.holds("the source was read: " + call, source.bodies.containsKey(call.split(" ")[0]));
+        }
     }
 }
